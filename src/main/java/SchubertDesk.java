@@ -899,7 +899,7 @@ public final class SchubertDesk {
 
     /** S of one fit permutation at a time, kept until that of another is asked for. */
     private static final class Single {
-        private final Grid grid = new Grid();
+        final Grid grid = new Grid();
         private final int[] code = new int[VARIABLES + 1];
         /** Each exchange makes one more fall among the first four digits: there are at most six. */
         private final int[] way = new int[6];
@@ -958,8 +958,8 @@ public final class SchubertDesk {
     /** The sheet told as a sum of S of permutations, kept until the sheet changes. */
     private static final class Parts {
         /** In the cell of each permutation's code: how many times it is there. */
-        private final Grid counts = new Grid();
-        private final Ascending numbers = new Ascending(CELLS);
+        final Grid counts = new Grid();
+        final Ascending numbers = new Ascending(CELLS);
         private boolean known = false;
 
         void forget() {

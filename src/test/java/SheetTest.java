@@ -1,5 +1,7 @@
 import java.util.ArrayList;
+import java.util.HashMap;
 import java.util.List;
+import java.util.Map;
 
 /** Promises 1 and 14 to 20. */
 public final class SheetTest {
@@ -19,11 +21,14 @@ public final class SheetTest {
         ordinary();
         refusals();
         overByNumbers();
+        overAtTheEnds();
         overByExponents();
         overByDifference();
+        nothingLeftBehind();
         List<Integer> fit = Oracle.allFit();
         eachAlone(fit);
         allAtOnce(fit);
+        monomials(fit);
         for (int run = 1; run <= 60; run++) {
             new Walk(run, fit).go(CHECK);
         }
@@ -145,15 +150,115 @@ public final class SheetTest {
         }
     }
 
-    /** S of 3412 is 2 times in the fourth power of S of 132, and the differences leave just that. */
+    /** Found by a search for a way on which no number is above the doubled one. */
     private static void twice(SchubertDesk x) {
-        for (int k = 0; k < 4; k++) {
-            x.multiply(132);
-        }
+        x.multiply(132);
+        x.multiply(132);
+        x.difference(2);
+        x.multiply(321);
+        x.difference(1);
         x.difference(2);
         x.difference(1);
         x.difference(3);
-        x.difference(2);
+    }
+
+    /** The same limits in the first cell and in the last one. */
+    private static void overAtTheEnds() {
+        for (int sign = -1; sign <= 1; sign += 2) {
+            SchubertDesk x = new SchubertDesk();
+            grow(x, sign * 1000000000);
+            CHECK.due("the constant", x.sheet(0, 0, 0, 0), sign * 1000000000L);
+            CHECK.due("one more", x.add(sign, 1), OVER);
+            CHECK.due("1000 more", x.add(sign * 1000, 1), OVER);
+            CHECK.due("times(1)", x.times(1), sign * 1000000000L);
+            CHECK.due("to the last cell", x.multiply(987612345), 1);
+            CHECK.due("one more there", x.add(sign, 987612345), OVER);
+            CHECK.due("the last cell", x.sheet(8, 7, 6, 5), sign * 1000000000L);
+            CHECK.due("times(987612345)", x.times(987612345), sign * 1000000000L);
+            CHECK.due("less there", x.add(sign * -1000, 987612345), 1);
+            CHECK.due("less by 1000", x.sheet(8, 7, 6, 5), sign * 999999000L);
+            CHECK.due("back to it", x.add(sign * 1000, 987612345), 1);
+        }
+    }
+
+    /** What a call leaves behind, a refused one too, must not show in the next ones. */
+    private static void nothingLeftBehind() {
+        SchubertDesk x = new SchubertDesk();
+        CHECK.due("add(-1000, 1432)", x.add(-1000, 1432), 5);
+        CHECK.due("add(1000, 12354)", x.add(1000, 12354), 9);
+        CHECK.due("part(-1)", x.part(-1), 2);
+        CHECK.due("wipe()", x.wipe(), 9);
+        CHECK.due("part(-1) of 0", x.part(-1), 0);
+        CHECK.due("times(1432) of 0", x.times(1432), 0);
+        CHECK.due("difference(1) of 0", x.difference(1), 0);
+        x.add(1, 231);
+        CHECK.due("wipe() again", x.wipe(), 1);
+        CHECK.due("difference(2) of 0", x.difference(2), 0);
+        CHECK.due("sheet of 0", x.sheet(1, 0, 0, 0), 0);
+        grow(x, 1000000000);
+        CHECK.due("multiply(231)", x.multiply(231), 1);
+        CHECK.due("add(1, 231) over", x.add(1, 231), OVER);
+        CHECK.due("difference(2) after it", x.difference(2), 1);
+        CHECK.due("x1 as it was", x.sheet(1, 0, 0, 0), 1000000000);
+        CHECK.due("part(0)", x.part(0), 21);
+        CHECK.due("multiply(2) refused", x.multiply(2), OUTSIDE);
+        CHECK.due("terms(15432) beside it", x.terms(15432), 14);
+        CHECK.due("times(21)", x.times(21), 1000000000);
+        CHECK.due("add(-1, 21)", x.add(-1, 21), 1);
+        CHECK.due("times(21) less", x.times(21), 999999999);
+        CHECK.due("difference(1)", x.difference(1), 1);
+        CHECK.due("times(21) none", x.times(21), 0);
+        CHECK.due("times(1)", x.times(1), 999999999);
+    }
+
+    /** Each of the sheet's monomials alone, put there as a sum of parts, and its differences. */
+    private static void monomials(List<Integer> fit) {
+        Map<List<Integer>, Integer> ofCode = new HashMap<>();
+        for (int w : fit) {
+            int[] d = Oracle.read(w);
+            ofCode.put(List.of(Oracle.code(d, 1), Oracle.code(d, 2), Oracle.code(d, 3),
+                    Oracle.code(d, 4)), w);
+        }
+        SchubertDesk x = new SchubertDesk();
+        for (List<Integer> e : ofCode.keySet()) {
+            Poly alone = new Poly();
+            alone.add(e, 1);
+            Map<Integer, Long> sum = sumOf(alone, ofCode);
+            for (int i = 1; i <= 3; i++) {
+                x.wipe();
+                sum.forEach((w, c) -> x.add((int) (long) c, w));
+                CHECK.due("sheet " + e, x.sheet(e.get(0), e.get(1), e.get(2), e.get(3)), 1);
+                CHECK.due("part(-1) of " + e, x.part(-1), sum.size());
+                Poly due = alone.difference(i);
+                CHECK.due("difference(" + i + ") of " + e, x.difference(i), due.size());
+                due.numbers.forEach((f, c) -> CHECK.due("difference of " + e + " at " + f,
+                        x.sheet(f.get(0), f.get(1), f.get(2), f.get(3)), c));
+            }
+        }
+    }
+
+    private static Map<Integer, Long> sumOf(Poly f, Map<List<Integer>, Integer> ofCode) {
+        Map<Integer, Long> sum = new HashMap<>();
+        Poly rest = f;
+        while (rest.size() > 0) {
+            List<Integer> last = null;
+            for (List<Integer> e : rest.numbers.keySet()) {
+                last = last == null || isBehind(e, last) ? e : last;
+            }
+            int w = ofCode.get(last);
+            sum.put(w, rest.at(last));
+            rest = rest.plus(Oracle.single(Oracle.read(w)), -rest.at(last));
+        }
+        return sum;
+    }
+
+    private static boolean isBehind(List<Integer> e, List<Integer> f) {
+        for (int k = 3; k >= 0; k--) {
+            if (!e.get(k).equals(f.get(k))) {
+                return e.get(k) > f.get(k);
+            }
+        }
+        return false;
     }
 
     private static void overByExponents() {
