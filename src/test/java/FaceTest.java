@@ -108,7 +108,20 @@ public final class FaceTest {
             String sought = isName ? "\\b" + Pattern.quote(word) + "\\b" : Pattern.quote(word);
             CHECK.holds("no " + word, !Pattern.compile(sought).matcher(code).find());
         }
+        madeWithTheObject(code);
         CHECK.holds("no package", !code.contains("package "));
         CHECK.holds("imports", !code.replace("import java.util.Arrays;", "").contains("import "));
+    }
+
+    /** All calls of a run share one room: what is made is made with the object, and none by a call. */
+    private static void madeWithTheObject(String code) {
+        int inConstructors = 0;
+        for (String line : code.split("\n")) {
+            if (Pattern.compile("\\bnew\\b").matcher(line).find() && !line.matches(".*\\bfinal .* = new .*;")) {
+                inConstructors++;
+                CHECK.holds("made in a constructor: " + line.trim(), line.trim().startsWith("items = new int["));
+            }
+        }
+        CHECK.due("made in constructors", inConstructors, 1);
     }
 }

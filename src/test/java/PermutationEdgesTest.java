@@ -22,6 +22,7 @@ public final class PermutationEdgesTest {
         smallUpToFive();
         belowOrTheSame();
         belowForAllPlacesAndDigits();
+        belowByHowMany();
         plainOutside();
         lengthOutside();
         codeOutside();
@@ -265,6 +266,18 @@ public final class PermutationEdgesTest {
                         i == j ? 0 : 1);
             }
         }
+    }
+
+    /** Beside one digit that both have, so that only how many there are tells. */
+    private static void belowByHowMany() {
+        CHECK.sentence("1: .. of digits 1 to p of u no more are q or more than of those of v");
+        SchubertDesk x = new SchubertDesk();
+        CHECK.due("two of u, one of v", x.below(4312, 4132), 0);
+        CHECK.due("one of u, two of v", x.below(4132, 4312), 1);
+        CHECK.due("three of u, two of v", x.below(543612, 543162), 0);
+        CHECK.due("two of u, three of v", x.below(543162, 543612), 1);
+        CHECK.due("alike up to the last but one", x.below(987654321, 987654312), 0);
+        CHECK.due("alike up to the last but one", x.below(987654312, 987654321), 1);
     }
 
     /** Digits i down to 1, then 9 down to i + 1. */

@@ -22,10 +22,12 @@ public final class RefusalEdgesTest {
         stateAheadOfNone();
         outsideAheadOfNone();
         refusalsChangeNothing();
+        asIfNotCalled();
         lostForAnyRefusal();
         noneChangesNothing();
         askingChangesNothing();
         asItIsWhenAsked();
+        listsAsTheyAreWhenAsked();
         setsAsBits();
         lastOf512Calls();
         dearest512Calls();
@@ -146,6 +148,34 @@ public final class RefusalEdgesTest {
         CHECK.due("x1 x1 x2", y.sheet(2, 1, 0, 0), LIMIT / 2 + 1);
         CHECK.due("no other", y.add(0, 1), 2);
         CHECK.due("again", y.difference(1), OVER);
+    }
+
+    private static void asIfNotCalled() {
+        CHECK.sentence("REFUSALS: they change nothing: the next calls are as if it had not been");
+        SchubertDesk x = new SchubertDesk();
+        Sheets.grow(x, LIMIT);
+        x.multiply(231);
+        CHECK.due("add, over", x.add(1, 231), OVER);
+        CHECK.due("difference after it", x.difference(2), 1);
+        CHECK.due("x1", x.sheet(1, 0, 0, 0), LIMIT);
+        SchubertDesk y = new SchubertDesk();
+        y.add(2, 912345678);
+        CHECK.due("multiply, over", y.multiply(21), OVER);
+        CHECK.due("difference after it", y.difference(1), 8);
+        CHECK.due("x2 to the 7", y.sheet(0, 7, 0, 0), 2);
+        CHECK.due("multiply, far over", y.multiply(192345678), OVER);
+        CHECK.due("add after it", y.add(1, 1), 9);
+        SchubertDesk z = overByDifference();
+        CHECK.due("difference, over", z.difference(1), OVER);
+        CHECK.due("another after it", z.difference(2), 1);
+        CHECK.due("x1 x1", z.sheet(2, 0, 0, 0), LIMIT / 2 + 1);
+        SchubertDesk w = overByDifference();
+        CHECK.due("difference, over", w.difference(1), OVER);
+        CHECK.due("multiply after it", w.multiply(21), 2);
+        CHECK.due("x1 to the 4", w.sheet(4, 0, 0, 0), LIMIT / 2 + 1);
+        w.wipe();
+        CHECK.due("difference after wipe", w.difference(1), 0);
+        CHECK.due("multiply after wipe", w.multiply(132), 0);
     }
 
     /** A refused call of each kind, on a sheet that is full. */
@@ -271,6 +301,24 @@ public final class RefusalEdgesTest {
             CHECK.due("times(" + due[k] + ") after " + after, x.times(due[k]), due[k + 1]);
         }
         CHECK.due("no more parts after " + after, x.part(due.length / 2), NONE);
+    }
+
+    /** Each list is told anew, whatever list was told before it. */
+    private static void listsAsTheyAreWhenAsked() {
+        CHECK.sentence("What is told is by how all is when it is asked: lists");
+        SchubertDesk x = new SchubertDesk();
+        for (int round = 0; round < 3; round++) {
+            CHECK.due("rises", x.rise(43218765, 4, -1), 16);
+            CHECK.due("ladders after rises", x.ladder(944, -1), 2);
+            CHECK.due("no ladders after two", x.ladder(0, -1), 0);
+            CHECK.due("heirs", x.step(765432198, -1), 7);
+            CHECK.due("no heirs after seven", x.step(21, -1), 0);
+            CHECK.due("rises after heirs", x.rise(1, 1, -1), 1);
+            CHECK.due("the first of them", x.rise(1, 1, 0), 21);
+            CHECK.due("dreams", x.dream(12354, -1), 4);
+            CHECK.due("one dream after four", x.dream(21, -1), 1);
+            CHECK.due("ladders again", x.ladder(512, 0), 256);
+        }
     }
 
     private static void setsAsBits() {

@@ -38,10 +38,12 @@ public final class SheetEdgesTest {
         multiplyOverByNumbers();
         multiplyOverByExponents();
         multiplyAtTheEnds();
+        multiplyByEachUpToTheEnds();
         multiplyZero();
         differenceOutside();
         differenceOver();
         differenceAtTheEnds();
+        differenceOfOneVariable();
         sheetOutside();
         sheetBeyond();
         partOutside();
@@ -358,6 +360,32 @@ public final class SheetEdgesTest {
         CHECK.due("in the midst", z.sheet(1, 1, 0, 0), 0);
     }
 
+    /** S of each, beside a monomial that leaves x1 just as much room as it needs: not one more. */
+    private static void multiplyByEachUpToTheEnds() {
+        CHECK.sentence("promise 16: OVER, by an exponent: for each w there is room up to 9 - i");
+        for (int w : Oracle.allFit()) {
+            int[] top = new int[4];
+            for (List<Integer> e : Oracle.single(Oracle.read(w)).numbers.keySet()) {
+                for (int k = 0; k < 4; k++) {
+                    top[k] = Math.max(top[k], e.get(k));
+                }
+            }
+            int[] left = new int[4];
+            for (int k = 0; k < 4; k++) {
+                left[k] = Math.min(k == 0 ? 8 : left[k - 1], 8 - k - top[k]);
+            }
+            SchubertDesk x = new SchubertDesk();
+            int terms = x.terms(w);
+            int monomial = x.ofCode(left[0], left[1], left[2], left[3]);
+            x.add(1, monomial);
+            CHECK.due(monomial + " by " + w, x.multiply(w), terms);
+            CHECK.due(".. and by x1", x.multiply(21), OVER);
+            SchubertDesk y = having(1, w);
+            CHECK.due(w + " by " + monomial, y.multiply(monomial), terms);
+            CHECK.due(".. and by x1", y.multiply(21), OVER);
+        }
+    }
+
     private static void multiplyZero() {
         CHECK.sentence("promise 16: of a sheet that has 0");
         SchubertDesk x = new SchubertDesk();
@@ -423,6 +451,24 @@ public final class SheetEdgesTest {
         SchubertDesk negative = having(1, 21, -1, 132);
         CHECK.due("of -x2", negative.difference(1), 1);
         CHECK.due("1", negative.sheet(0, 0, 0, 0), 1);
+    }
+
+    private static void differenceOfOneVariable() {
+        CHECK.sentence("promise 17: .. of x1, x2, x3, x4 alone");
+        int[] due = {1, 0, 0, -1, 1, 0, 0, -1, 1, 0, 0, -1};
+        for (int k = 0; k < 4; k++) {
+            for (int i = 1; i <= 3; i++) {
+                SchubertDesk x = alone(k + 1);
+                int number = due[3 * k + i - 1];
+                CHECK.due("difference(" + i + ") of x" + (k + 1), x.difference(i), Math.abs(number));
+                CHECK.due("the number", x.sheet(0, 0, 0, 0), number);
+            }
+        }
+    }
+
+    private static SchubertDesk alone(int variable) {
+        int[] sums = {0, 21, 132, 1243, 12354};
+        return variable == 1 ? having(1, sums[1]) : having(1, sums[variable], -1, sums[variable - 1]);
     }
 
     // ---- promise 18

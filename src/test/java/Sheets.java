@@ -8,7 +8,7 @@ final class Sheets {
     private Sheets() {
     }
 
-    /** Makes the sheet, which has 0, this number, in at most 191 calls: it is doubled and added to. */
+    /** Makes the sheet, which has 0, this number, in at most 181 calls: it is doubled and added to. */
     static void grow(SchubertDesk x, int goal) {
         int shift = 0;
         while (Math.abs(goal / (1 << shift)) > 1000) {
