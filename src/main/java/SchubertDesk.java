@@ -44,7 +44,6 @@ public final class SchubertDesk {
     private final Digits third = new Digits();
     private final Ascending list = new Ascending(LIST_ROOM);
     private final Grid page = new Grid();
-    private final Grid draft = new Grid();
     private final Single single = new Single();
     private final Parts parts = new Parts();
 
@@ -176,9 +175,10 @@ public final class SchubertDesk {
             return cell;
         }
         single.make(cell);
+        Grid draft = parts.lendCells();
         draft.copy(page);
         draft.addTimes(c, single.grid, CELLS);
-        return takeDraft();
+        return takeDraft(draft);
     }
 
     /** Promise 16. */
@@ -196,8 +196,9 @@ public final class SchubertDesk {
         if (!page.hasRoomFor(single.grid)) {
             return OVER;
         }
+        Grid draft = parts.lendCells();
         draft.becomeProduct(page, single.grid);
-        return takeDraft();
+        return takeDraft(draft);
     }
 
     /** Promise 17. */
@@ -205,10 +206,11 @@ public final class SchubertDesk {
         if (i < 1 || i >= VARIABLES) {
             return OUTSIDE;
         }
+        Grid draft = parts.lendCells();
         draft.copy(page);
         draft.measure();
         draft.differ(i, 0, draft.degreeBound());
-        return takeDraft();
+        return takeDraft(draft);
     }
 
     /** Promise 18. */
@@ -403,12 +405,11 @@ public final class SchubertDesk {
     }
 
     /** Makes the draft the sheet, unless that would be over. */
-    private int takeDraft() {
+    private int takeDraft(Grid draft) {
         if (!draft.isWithinLimit()) {
             return OVER;
         }
         page.copy(draft);
-        parts.forget();
         return page.filled();
     }
 
@@ -964,6 +965,15 @@ public final class SchubertDesk {
 
         void forget() {
             known = false;
+        }
+
+        /**
+         * Cells for a draft of the next sheet; the parts are found anew after that. So an object
+         * has one grid less: all that are made in a run share one room.
+         */
+        Grid lendCells() {
+            forget();
+            return counts;
         }
 
         /**
